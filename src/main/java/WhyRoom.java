@@ -1424,7 +1424,7 @@ public final class WhyRoom {
         private final Scheme plan;
         private final State now;
         private final Ground ground;
-        // A bit for each set of CLAIMS: whether the CLAIM looked at STANDS by it alone.
+        // A bit for each set of CLAIMS: whether the CLAIM looked at STANDS by it and itself alone.
         private final int[] enough = new int[(1 << CLAIMS_MOST) / BITS];
 
         Needs(Scheme plan, State now, Ground ground) {
@@ -1483,21 +1483,22 @@ public final class WhyRoom {
             return needed;
         }
 
-        /** ACTS in some least set by which alone a CLAIM that STANDS does so. */
+        /** ACTS in some least set by which alone a CLAIM that STANDS does so; itself is in each. */
         int actsSomeWay(int x) {
             Arrays.fill(enough, 0);
-            int useful = ground.reachOf(x) & ground.standing();
-            int used = 0;
-            int set = 0;
+            int own = 1 << x;
+            int useful = ground.reachOf(x) & ground.standing() & ~own;
+            int used = own;
+            int others = 0;
             for (int i = 0; i < 1 << CLAIMS_MOST; i++) {
-                boolean spare = isEnoughWithOneLess(set);
-                boolean holds = spare || has(set, x) && has(ground.standingBy(~set, ~0), x);
-                used |= holds && !spare ? set : 0;
-                markEnough(set, holds);
-                if (set == useful) {
+                boolean spare = isEnoughWithOneLess(others);
+                boolean holds = spare || has(ground.standingBy(~(others | own), ~0), x);
+                used |= holds && !spare ? others : 0;
+                markEnough(others, holds);
+                if (others == useful) {
                     break;
                 }
-                set = nextSubset(set, useful);
+                others = nextSubset(others, useful);
             }
             return used & plan.bitsOf(ACT);
         }
@@ -1603,7 +1604,7 @@ public final class WhyRoom {
         private final long[] share = new long[CLAIMS_MOST];
         private final long[] shareBefore = new long[CLAIMS_MOST];
         // At ten times a CLAIM and a PART: how many USABLE REASONS lead from one to the other.
-        private final int[] steps = new int[CLAIMS_MOST * CLAIMS_MOST];
+        private final int[] links = new int[CLAIMS_MOST * CLAIMS_MOST];
 
         Lots(Scheme plan, State now, Ground ground) {
             this.plan = plan;
@@ -1612,16 +1613,16 @@ public final class WhyRoom {
         }
 
         int rowsBetween(int x, int y, int n) {
-            countSteps();
+            countLinks();
             return rowsOn(x, y, n, now.law == 1 ? 1 << x : 0);
         }
 
-        private void countSteps() {
-            Arrays.fill(steps, 0);
+        private void countLinks() {
+            Arrays.fill(links, 0);
             for (int k = 0; k < plan.reasons; k++) {
                 for (int part = 0; part < plan.claims; part++) {
                     boolean leads = ground.isUsable(k) && has(plan.parts[k], part);
-                    steps[CLAIMS_MOST * plan.claimOf[k] + part] += leads ? 1 : 0;
+                    links[CLAIMS_MOST * plan.claimOf[k] + part] += leads ? 1 : 0;
                 }
             }
         }
@@ -1632,7 +1633,7 @@ public final class WhyRoom {
             }
             int rows = 0;
             for (int part = 0; part < plan.claims; part++) {
-                int ways = has(barred, part) ? 0 : steps[CLAIMS_MOST * x + part];
+                int ways = has(barred, part) ? 0 : links[CLAIMS_MOST * x + part];
                 if (ways > 0) {
                     rows += ways * rowsOn(part, y, left - 1, now.law == 1 ? barred | 1 << part : 0);
                 }
