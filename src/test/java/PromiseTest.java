@@ -154,6 +154,12 @@ public final class PromiseTest {
         tell(x, 1, MIN, MIN);
         x.mean(1);
         due(7, "mean of the least", x.asked(), MIN);
+        x.row(2, 40);
+        x.lay(2, 39, -81);
+        x.mean(2);
+        due(7, "mean of forty", x.asked(), -2);
+        tell(x, 1, MIN, MIN);
+        x.mean(1);
         due(7, "no row", x.mean(6), BAD);
         finds(7, "missing", x, x.mean(5), 1);
         finds(7, "among none", x, x.mean(0), 4);
