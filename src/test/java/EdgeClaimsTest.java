@@ -29,7 +29,8 @@ public final class EdgeClaimsTest {
         falls();
         fallsAtMost();
         whose();
-        edges.end();
+        oneBehindTheOther();
+        edges.end(28, 41);
     }
 
     private static WhyRoom gone(String text, int... claims) {
@@ -165,6 +166,7 @@ public final class EdgeClaimsTest {
         longestIs("the first such row", Edges.of("ceeb0129b0119"), 0, 0, 1);
         longestIs("the first such row of one reason", Edges.of("ceeb02219"), 0, 0, 1);
         longestIs("a lower claim later on", Edges.of("cccceb0119b0129b1149b2139b3149"), 0, 0, 2, 3, 4);
+        longestIs("by way of 0", Edges.of("cccceb1129b1139b2149b3109b0149"), 1, 1, 3, 0, 4);
         WhyRoom lawful = Edges.after(WAY_OUT, 3);
         lawful.law(1);
         longestIs("the law is nothing to it", lawful, 1, 1, 0, 2);
@@ -357,6 +359,34 @@ public final class EdgeClaimsTest {
         edges.tells(41, "a way that needs none", () -> Edges.of("caeeb0129b0119b1139"), x -> x.whose(0), 0, 2);
         edges.tells(41, "but on the same end", () -> Edges.of("caeb0129b0119b1129"), x -> x.whose(0), 0, 0);
         edges.tells(41, "could be missing", () -> Edges.of("caaeb0119b1139b1129b2139"), x -> x.whose(0), 2, 2);
+        edges.tells(41, "claim 0 could be missing", () -> Edges.of("aceb1129b1109b0129"), x -> x.whose(1), 0, 0);
         edges.tells(41, "stands not", () -> Edges.of("caeb0119"), x -> x.whose(0), 0, 0);
+    }
+
+    /** What was asked of one claim is nothing to what is asked of the next. */
+    private static void oneBehindTheOther() {
+        for (String text : new String[] {"amahmamhae" + CHAIN, TO_LOST, RING, Edges.RAIN, WAY_OUT}) {
+            WhyRoom x = Edges.of(text);
+            int claims = x.count(0);
+            for (int i = claims - 1; i > -claims; i--) {
+                int c = Math.abs(i);
+                alone(29, text, c, x, y -> 1000 * y.soonest(c) + y.asked());
+                alone(30, text, c, x, y -> y.steps(c));
+                alone(31, text, c, x, y -> y.sure(c));
+                alone(32, text, c, x, y -> y.longest(c, 0));
+                alone(34, text, c, x, y -> y.never(c));
+                alone(35, text, c, x, y -> y.game(c));
+                alone(37, text, c, x, y -> y.agree(c));
+                alone(39, text, c, x, y -> y.without(c));
+                alone(41, text, c, x, y -> 1000 * y.whose(c) + y.asked());
+            }
+        }
+    }
+
+    private static void alone(int promise, String text, int claim, WhyRoom x, Edges.Call call) {
+        x.stands();
+        WhyRoom fresh = Edges.of(text);
+        fresh.stands();
+        edges.is(promise, text + " of " + claim + " behind others", call.on(x), call.on(fresh));
     }
 }

@@ -24,7 +24,8 @@ public final class EdgeEveningTest {
         image();
         imageIsACopy();
         on();
-        edges.end();
+        onAtMost();
+        edges.end(19, 27);
     }
 
     private static WhyRoom begun(String text, int claim) {
@@ -345,10 +346,28 @@ public final class EdgeEveningTest {
         edges.is(27, "the evening again", x.on(2), 1);
         edges.is(27, "gone on from", x.answer(6, 8), 0);
         edges.is(27, "as kept", x.on(2), 1);
-        WhyRoom y = full();
-        y.image(0);
-        y.begin(1);
-        edges.is(27, "39 answers", y.on(0), 39);
-        edges.is(27, "full", y.answer(1, 0), Edges.FULL);
+    }
+
+    /** All forty CLAIMS asked of come back, though forty others were asked of since. */
+    private static void onAtMost() {
+        WhyRoom x = full();
+        x.image(0);
+        x.begin(1);
+        for (int i = 0; i < 39; i++) {
+            x.answer((i + 1) % 2, i % 2);
+        }
+        edges.is(27, "the other way round", x.here(), 0);
+        x.image(1);
+        edges.is(27, "39 answers", x.on(0), 39);
+        edges.is(27, "where it was", x.here(), 1);
+        x.asks(2);
+        int[] all = new int[40];
+        for (int i = 0; i < 40; i++) {
+            all[i] = i % 2;
+        }
+        edges.isRow(27, "all forty", x, 2, all);
+        edges.is(27, "full", x.answer(1, 0), Edges.FULL);
+        edges.is(27, "the other one", x.on(1), 39);
+        edges.is(27, "the other one", x.here(), 0);
     }
 }

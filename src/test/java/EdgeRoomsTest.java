@@ -29,7 +29,7 @@ public final class EdgeRoomsTest {
         away();
         learn();
         law();
-        edges.end();
+        edges.end(10, 18);
     }
 
     // ---- promise 10

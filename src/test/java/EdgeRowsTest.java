@@ -18,7 +18,7 @@ public final class EdgeRowsTest {
         mean();
         text();
         put();
-        edges.end();
+        edges.end(1, 9);
     }
 
     // ---- promise 1

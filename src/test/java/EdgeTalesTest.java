@@ -27,7 +27,7 @@ public final class EdgeTalesTest {
         nightFull();
         nightTillNoneMayBe();
         nightBySeeds();
-        edges.end();
+        edges.end(42, 47);
     }
 
     private static long told(int promise, WhyRoom x, int r) {
@@ -149,6 +149,8 @@ public final class EdgeTalesTest {
         int[] first = rounds(15);
         first[2] = 0;
         judged("the first could not be", Edges.of(WAY_OUT), 0, 0, first);
+        judged("nothing behind the row's end", Edges.of("ccb1109"), 0, 0, 1);
+        judged("nothing behind the row's end", Edges.of("ccb0119b1109"), 1, 0, 0, 0, 1);
         judged("behind an end", Edges.of(WAY_OUT), 1, 1, 0, 2, 2, 0, 1);
         judged("behind a loss", Edges.of("cclb02129"), 1, 2, 0, 0, 1, 0, 2);
         judged("the evening there is is nothing to it", Edges.after(WAY_OUT, 39), 1, 1, 0, 2, 2);
@@ -251,6 +253,10 @@ public final class EdgeTalesTest {
         edges.answers(45, "round and out", () -> Edges.of(WAY_OUT), x -> x.fits(0, 2, 3), 1);
         edges.answers(45, "not by the law", () -> lawful(Edges.of(WAY_OUT)), x -> x.fits(0, 2, 3), 0);
         edges.answers(45, "by the law", () -> lawful(Edges.of(WAY_OUT)), x -> x.fits(1, 2, 2), 1);
+        String later = "cccb0119b1129b2119";
+        edges.answers(45, "a round later on", () -> Edges.of(later), x -> x.fits(0, 1, 3), 1);
+        edges.answers(45, "not by the law", () -> lawful(Edges.of(later)), x -> x.fits(0, 1, 3), 0);
+        edges.answers(45, "asked twice", () -> Edges.of(later), x -> x.fits(0, 1, 3) + x.fits(0, 1, 3), 2);
         edges.answers(45, "the evening there is bars nothing", Edges::rich, x -> x.fits(6, 8, 1), 1);
         edges.answers(45, "five by the law", () -> lawful(Edges.of("cccccccccc" + CHAIN)), x -> x.fits(0, 5, 5), 1);
     }

@@ -17,7 +17,7 @@ public final class EdgeTellingTest {
         digestOfEvenings();
         digestIsOfTheStateAlone();
         fiveHundredAndTwelveCalls();
-        edges.end();
+        edges.end(48, 54);
     }
 
     // ---- promise 48

@@ -28,10 +28,10 @@ final class Edges {
     }
 
     private int wrong;
-    private int looked;
+    private final int[] looked = new int[55];
 
     void is(int promise, String what, long got, long want) {
-        looked++;
+        looked[promise]++;
         if (got != want) {
             wrong++;
             System.out.println("promise " + promise + ": " + what + ": " + got + ", due is " + want);
@@ -72,11 +72,7 @@ final class Edges {
             bad(promise, what + " " + no, ready, x -> call.on(x, no));
         }
         for (int yes : new int[] {least, most}) {
-            looked++;
-            if (call.on(ready.make(), yes) == BAD) {
-                wrong++;
-                System.out.println("promise " + promise + ": " + what + " " + yes + " is BAD");
-            }
+            is(promise, what + " " + yes + " is BAD", call.on(ready.make(), yes) == BAD ? 1 : 0, 0);
         }
     }
 
@@ -140,8 +136,17 @@ final class Edges {
         }
     }
 
-    void end() {
-        System.out.println(wrong == 0 ? looked + " answers at edges are as due" : wrong + " answers are not as due");
+    /** Each promise from the first to the last one must have been looked at. */
+    void end(int first, int last) {
+        int answers = 0;
+        for (int promise = first; promise <= last; promise++) {
+            answers += looked[promise];
+            if (looked[promise] == 0) {
+                wrong++;
+                System.out.println("promise " + promise + " was not looked at");
+            }
+        }
+        System.out.println(wrong == 0 ? answers + " answers at edges are as due" : wrong + " answers are not as due");
         if (wrong != 0) {
             System.exit(1);
         }
