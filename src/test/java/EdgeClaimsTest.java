@@ -206,6 +206,7 @@ public final class EdgeClaimsTest {
         edges.answers(33, "a ring", () -> Edges.of(RING), x -> x.lost(), 0);
         edges.answers(33, "one part of three", () -> Edges.of("celeb031239"), x -> x.lost(), 5);
         edges.answers(33, "one reason of two", () -> Edges.of("cleb0119b0129"), x -> x.lost(), 2);
+        edges.answers(33, "by way of 0", () -> Edges.of("cclb1109b0129"), x -> x.lost(), 7);
         edges.answers(33, "both reasons", () -> Edges.of("cleb0119b02129"), x -> x.lost(), 3);
     }
 
@@ -241,6 +242,7 @@ public final class EdgeClaimsTest {
         edges.answers(35, "a ring", () -> Edges.of(RING), x -> x.game(0), NONE);
         edges.answers(35, "the answers that last longest", () -> Edges.of("cclb0129b0119b1129"), x -> x.game(0), 2);
         edges.answers(35, "the part that is soonest", () -> Edges.of("cclb02129b1129"), x -> x.game(0), 1);
+        edges.answers(35, "by way of 0", () -> Edges.of("cclb1109b0129"), x -> x.game(1), 2);
         edges.answers(35, "one reason saves", () -> Edges.of("cleb0119b0129"), x -> x.game(0), NONE);
     }
 
@@ -348,6 +350,7 @@ public final class EdgeClaimsTest {
         edges.tells(41, "an act that stands not", () -> Edges.of("a"), x -> x.whose(0), 0, 0);
         edges.tells(41, "an act taken away", () -> gone("aeb0119", 0), x -> x.whose(0), 0, 0);
         edges.tells(41, "an end", () -> Edges.of("e"), x -> x.whose(0), 0, 0);
+        edges.tells(41, "an end by which an act stands", () -> Edges.of("aeb0119"), x -> x.whose(1), 0, 0);
         edges.tells(41, "itself", () -> Edges.of("aeb0119"), x -> x.whose(0), 1, 1);
         edges.tells(41, "itself, a machine", () -> Edges.of("meb0119"), x -> x.whose(0), 1, 1);
         edges.tells(41, "no acts", () -> Edges.of(TO_END), x -> x.whose(0), 0, 0);
