@@ -96,13 +96,18 @@ public final class FaceTest {
             check(Modifier.isStatic(inside.getModifiers()), inside + " is not static");
             check(!Modifier.isPublic(inside.getModifiers()) && !Modifier.isProtected(inside.getModifiers()), inside + " can be seen");
             noPrivateBears(names, inside);
-            int fields = 0;
-            for (Field field : inside.getDeclaredFields()) {
-                fields += Modifier.isStatic(field.getModifiers()) ? 0 : 1;
-            }
-            check(fields <= 20, inside + " has too many fields");
+            notTooManyFields(inside);
         }
+        notTooManyFields(WhyRoom.class);
         check(WhyRoom.class.getDeclaredClasses().length <= 11, "too many classes");
+    }
+
+    private static void notTooManyFields(Class<?> type) {
+        int fields = 0;
+        for (Field field : type.getDeclaredFields()) {
+            fields += Modifier.isStatic(field.getModifiers()) ? 0 : 1;
+        }
+        check(fields <= 20, type + " has too many fields");
     }
 
     private static void noPrivateBears(TreeSet<String> names, Class<?> type) {
